@@ -1,0 +1,88 @@
+import java.nio.charset.StandardCharsets;
+
+/** What the tests share: answers are compared, wrong ones are printed, and the exit code tells. */
+final class Check {
+    private static int wrong;
+    private static int checks;
+
+    private Check() {
+    }
+
+    static void due(String what, long got, long want) {
+        checks++;
+        if (got != want) {
+            wrong++;
+            System.out.println(what + " answered " + got + ", due is " + want);
+        }
+    }
+
+    static void due(String what, boolean got, boolean want) {
+        due(what, got ? 1 : 0, want ? 1 : 0);
+    }
+
+    /** The end of every test's main method. */
+    static void finish() {
+        if (wrong > 0 || checks == 0) {
+            System.out.println(wrong + " of " + checks + " answers are not as due");
+            System.exit(1);
+        }
+        System.out.println(checks + " answers are as due");
+    }
+
+    interface Call {
+        void make();
+    }
+
+    static void throwsIndex(String what, Call call) {
+        boolean thrown = false;
+        try {
+            call.make();
+        } catch (IndexOutOfBoundsException e) {
+            thrown = e.getClass() == IndexOutOfBoundsException.class;
+        }
+        due(what + " throws IndexOutOfBoundsException", thrown, true);
+    }
+
+    static void throwsArgument(String what, Call call) {
+        boolean thrown = false;
+        try {
+            call.make();
+        } catch (IllegalArgumentException e) {
+            thrown = e.getClass() == IllegalArgumentException.class;
+        }
+        due(what + " throws IllegalArgumentException", thrown, true);
+    }
+
+    /** Feeds the text, with blanks behind it to fill the last twenty bytes. */
+    static void feed(LaneMachine machine, String text) {
+        feed(machine, text.getBytes(StandardCharsets.ISO_8859_1));
+    }
+
+    static void feed(LaneMachine machine, byte[] bytes) {
+        for (int from = 0; from < bytes.length; from += 20) {
+            int[] words = new int[5];
+            for (int i = 0; i < 20; i++) {
+                int b = from + i < bytes.length ? bytes[from + i] & 255 : ' ';
+                words[i / 4] = words[i / 4] << 8 | b;
+            }
+            due("feed", machine.feed(words[0], words[1], words[2], words[3], words[4]), true);
+        }
+    }
+
+    /** What assemble() answers for just this text. */
+    static int assemble(LaneMachine machine, String text) {
+        feed(machine, text);
+        return machine.assemble(text.length());
+    }
+
+    /** A new machine with this program; the lines have ; between them instead of line feeds. */
+    static LaneMachine with(String lines) {
+        LaneMachine machine = new LaneMachine();
+        program(machine, lines);
+        return machine;
+    }
+
+    static void program(LaneMachine machine, String lines) {
+        due("assembling " + lines, assemble(machine, lines.replace(';', '\n')) >= 0, true);
+    }
+}
