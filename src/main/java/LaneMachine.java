@@ -502,7 +502,7 @@ public final class LaneMachine {
         }
 
         /** What it may write: V, M, S or A; another letter if nothing. */
-        char written() {
+        char target() {
             if (storesLanes()) {
                 return 'A';
             }
@@ -1441,7 +1441,7 @@ public final class LaneMachine {
         }
 
         static long product(int kind, long x, long y) {
-            boolean negative = x < 0 != y < 0;
+            boolean negative = (x < 0) != (y < 0);
             long m = significand(kind, x);
             long n = significand(kind, y);
             if (m == 0 || n == 0) {
@@ -1463,7 +1463,7 @@ public final class LaneMachine {
 
         /** y is not 0. */
         static long quotient(int kind, long x, long y) {
-            boolean negative = x < 0 != y < 0;
+            boolean negative = (x < 0) != (y < 0);
             long m = significand(kind, x);
             long n = significand(kind, y);
             if (m == 0 || n == 0) {
@@ -1494,7 +1494,7 @@ public final class LaneMachine {
                 return x;
             }
             long rest = significand(kind, x) % n;
-            for (int left = apart; left > 0; left -= 10) {
+            for (int left = apart; left > 0 && rest != 0; left -= 10) {
                 rest = (rest << Math.min(left, 10)) % n;
             }
             return pack(kind, x < 0, rest, e);
@@ -1544,10 +1544,11 @@ public final class LaneMachine {
             return sort == NOTHING;
         }
 
+        /** The letters are those of operands; any but these four stands for nothing. */
         void take(State state, char what, int which) {
             sort = what;
             number = which & 7;
-            switch (what) {
+            switch (sort) {
                 case 'V':
                     row.copyFrom(state.registers[number]);
                     break;
@@ -1555,14 +1556,12 @@ public final class LaneMachine {
                     row.copyFrom(state.arrays[number]);
                     break;
                 case 'M':
-                    number = which & 3;
-                    value = state.masks[number];
+                    value = state.masks[number & 3];
                     break;
                 case 'S':
                     value = state.scalars[number];
                     break;
                 default:
-                    clear();
                     break;
             }
         }
@@ -2182,7 +2181,7 @@ public final class LaneMachine {
             }
             int calls = open;
             int top = latestReturn();
-            trail.next.take(state, op.written(), (int) cell[op.storesLanes() ? 2 : 1]);
+            trail.next.take(state, op.target(), (int) cell[op.storesLanes() ? 2 : 1]);
             pc = place + 1;
             if (op.makesLanes()) {
                 fault = lanes.makeLanes(op);
@@ -2208,9 +2207,9 @@ public final class LaneMachine {
             return 0;
         }
 
-        /** Whether the latest step changed a watched element. */
+        /** Whether the step that was done just now changed a watched element. */
         boolean changedOneOf(long[] watched) {
-            return trail.held > 0 && trail.aheadOfLatest().isChanged(state, watched);
+            return trail.aheadOfLatest().isChanged(state, watched);
         }
 
         /** The place of the step that was TAKEN BACK, or -1. */
