@@ -117,6 +117,8 @@ public final class InstructionsTest {
         makes("ddd", of(0, 0, 0), of(0, 5, -6), of(0, 0, 0), "neg v0,v1;abs v0,v0", d(0), d(5), d(6));
         makes("fff", of(0, 0, 0), of(0, 5, -6), of(0, 0, 0), "neg v0,v1", f(-0f), f(-5), f(6));
         makes("fff", of(0, 0, 0), of(0, 5, -6), of(0, 0, 0), "neg v0,v1;abs v0,v0", f(0), f(5), f(6));
+        makes("fff", of(1, 0), of(0, 5), of(0), "abs v0,v1", f(0), f(5));
+        makes("ddd", of(1, 0), of(0, 5), of(0), "abs v0,v1", d(0), d(5));
         makes("fff", of(0, 0, 0), of(9, 2, 0), of(0, 0, 0), "sqrt v0,v1", f(3), f((float) Math.sqrt(2)), f(0));
         makes("ddd", of(0, 0, 0), of(9, 2, 0), of(0, 0, 0), "sqrt v0,v1", d(3), d(Math.sqrt(2)), d(0));
         makes("ddd", of(0, 0), of(0, 0), of(0, 0), "neg v1,v1;sqrt v0,v1", d(-0.0), d(-0.0));

@@ -142,6 +142,9 @@ public final class RunTest {
         Check.due("PC", m.count(5), 2);
         m.back();
         Check.due("break points stay", m.count(8), 2);
+        m.stop(2, false);
+        Check.due("the first instruction's", m.run(10), -2);
+        Check.due("PC", m.count(5), 0);
     }
 
     private static void watches() {
