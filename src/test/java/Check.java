@@ -4,15 +4,22 @@ import java.nio.charset.StandardCharsets;
 final class Check {
     private static int wrong;
     private static int checks;
+    private static String sentence = "";
 
     private Check() {
+    }
+
+    /** The sentence of the document that the answers from here on hold; it is told with each wrong one. */
+    static void holds(String words) {
+        sentence = words;
     }
 
     static void due(String what, long got, long want) {
         checks++;
         if (got != want) {
             wrong++;
-            System.out.println(what + " answered " + got + ", due is " + want);
+            System.out.println((sentence.isEmpty() ? "" : "[" + sentence + "] ") + what + " answered " + got
+                    + ", due is " + want);
         }
     }
 
@@ -51,6 +58,41 @@ final class Check {
             thrown = e.getClass() == IllegalArgumentException.class;
         }
         due(what + " throws IllegalArgumentException", thrown, true);
+    }
+
+    /** The LENGTH and the lanes of a register. */
+    static void lanes(String what, LaneMachine m, int v, long... want) {
+        due(what + ": LENGTH of v" + v, m.register(v, 1), want.length);
+        for (int i = 0; i < Math.min(m.register(v, 1), want.length); i++) {
+            due(what + ": v" + v + " lane " + i, m.lane(v, i), want[i]);
+        }
+    }
+
+    /** How many elements an array has, and which. */
+    static void elements(String what, LaneMachine m, int a, long... want) {
+        due(what + ": elements of a" + a, m.array(a, 1), want.length);
+        for (int i = 0; i < Math.min(m.array(a, 1), want.length); i++) {
+            due(what + ": a" + a + " element " + i, m.peek(a, i), want[i]);
+        }
+    }
+
+    /** All that fault() tells. */
+    static void fault(String what, LaneMachine m, int fault, int place, int lane) {
+        due(what + ": fault(0)", m.fault(0), fault);
+        due(what + ": fault(1)", m.fault(1), place);
+        due(what + ": fault(2)", m.fault(2), lane);
+    }
+
+    static void noFault(String what, LaneMachine m) {
+        fault(what, m, 0, -1, -1);
+    }
+
+    static long d(double d) {
+        return Double.doubleToRawLongBits(d);
+    }
+
+    static long f(double f) {
+        return Float.floatToRawIntBits((float) f);
     }
 
     /** Feeds the text, with blanks behind it to fill the last twenty bytes. */

@@ -7,19 +7,34 @@ public final class RandomRunsTest {
         65535, -32768, Integer.MAX_VALUE, Integer.MIN_VALUE, 16777217, 1L << 53, (1L << 53) + 1, (1L << 62) - 1,
         Long.MAX_VALUE, Long.MIN_VALUE, Long.MAX_VALUE - 30, 999999999999999999L};
 
+    /** What an object answers later is free. */
+    private static final int LAST_CALL = 512;
+    /** From here on a run only looks at what there is. */
+    private static final int LAST_CHANGE = 420;
+
     private final Random random;
     private final LaneMachine machine = new LaneMachine();
     private final Model model = new Model();
     private final StringBuilder told = new StringBuilder();
     /** Whether operands are chosen so that kinds mostly fit: v0 .. v3 alike, v4 and v5 INT, s6 and s7 small. */
     private boolean fitted;
+    private int calls;
+
+    /** The machine's last call was made. */
+    private static final class Spent extends RuntimeException {
+        private static final long serialVersionUID = 1;
+
+        Spent() {
+            super("spent", null, false, false);
+        }
+    }
 
     private RandomRunsTest(long seed) {
         random = new Random(seed);
     }
 
     public static void main(String[] args) {
-        int runs = args.length > 0 ? Integer.parseInt(args[0]) : 1500;
+        int runs = args.length > 0 ? Integer.parseInt(args[0]) : 12000;
         long first = args.length > 1 ? Long.parseLong(args[1]) : 1;
         for (long seed = first; seed < first + runs; seed++) {
             new RandomRunsTest(seed).run(seed);
@@ -35,7 +50,7 @@ public final class RandomRunsTest {
         return pick(3) == 0 ? random.nextLong() >> pick(64) : pick(2) == 0 ? pick(40) - 4 : ODD[pick(ODD.length)];
     }
 
-    /** The tests go on only as long as the two agree. */
+    /** The tests go on only as long as the two agree; each comparison is one call of the machine. */
     private void same(String call, long got, long want) {
         told.append(call).append(" = ").append(want).append('\n');
         if (got != want) {
@@ -45,6 +60,14 @@ public final class RandomRunsTest {
         if (got != want) {
             Check.finish();
         }
+        spend();
+    }
+
+    private void spend() {
+        calls++;
+        if (calls == LAST_CALL) {
+            throw new Spent();
+        }
     }
 
     private static long of(boolean b) {
@@ -53,26 +76,28 @@ public final class RandomRunsTest {
 
     private void run(long seed) {
         told.append("seed ").append(seed).append('\n');
-        int calls = 0;
-        while (calls < 400) {
-            int kind = pick(7);
-            fitted = pick(3) > 0;
-            if (fitted) {
-                calls += arrays(kind);
-            }
-            String text = fitted ? fittedProgram(kind) : program();
-            calls += assemble(pick(12) == 0 ? spoiled(text) : text);
-            for (int k = pick(60); k > 0; k--, calls++) {
-                call();
+        try {
+            while (calls < LAST_CHANGE) {
+                int kind = pick(7);
+                fitted = pick(3) > 0;
+                if (fitted) {
+                    arrays(kind);
+                }
+                String text = fitted ? fittedProgram(kind) : program();
+                assemble(pick(12) == 0 ? spoiled(text) : text);
+                for (int k = pick(80); k > 0 && calls < LAST_CHANGE; k--) {
+                    call();
+                }
             }
             all();
+        } catch (Spent e) {
+            return;
         }
     }
 
-    private int assemble(String text) {
+    private void assemble(String text) {
         byte[] bytes = text.getBytes(StandardCharsets.ISO_8859_1);
-        int feeds = 0;
-        for (int from = 0; from < bytes.length; from += 20, feeds++) {
+        for (int from = 0; from < bytes.length; from += 20) {
             int[] w = new int[5];
             for (int i = 0; i < 20; i++) {
                 int b = from + i < bytes.length ? bytes[from + i] & 255 : ' ';
@@ -83,7 +108,6 @@ public final class RandomRunsTest {
         int n = pick(30) == 0 ? pick(5000) - 10 : Math.min(text.length(), model.tape.length());
         told.append(text).append('\n');
         same("assemble(" + n + ")", machine.assemble(n), model.assemble(n));
-        return feeds + 1;
     }
 
     // ---- texts
@@ -112,7 +136,7 @@ public final class RandomRunsTest {
     }
 
     /** Arrays 0 and 1 of that kind, with some elements. */
-    private int arrays(int kind) {
+    private void arrays(int kind) {
         for (int m = 1; m >= 0; m--) {
             same("free", of(machine.free(m)), of(model.free(m)));
         }
@@ -129,7 +153,6 @@ public final class RandomRunsTest {
             long v = odd();
             same("scalar " + s + " " + v, of(machine.scalar(s, v)), of(model.scalar(s, v)));
         }
-        return 16;
     }
 
     private String fittedProgram(int kind) {
@@ -333,6 +356,7 @@ public final class RandomRunsTest {
             machine.begin();
             model.begin();
             told.append("begin\n");
+            spend();
         } else if (what < 5) {
             same("slim", machine.slim(), model.slim());
         } else if (what < 8) {
@@ -358,19 +382,45 @@ public final class RandomRunsTest {
 
     // ---- what can be seen
 
+    /** Four things, so that there are calls left for more to be done. */
     private void some() {
-        for (int what = -1; what <= 12; what++) {
-            same("count " + what, machine.count(what), model.count(what));
+        for (int k = 0; k < 4; k++) {
+            int r = pick(8);
+            switch (pick(6)) {
+                case 0, 1:
+                    int what = pick(14) - 1;
+                    same("count " + what, machine.count(what), model.count(what));
+                    break;
+                case 2:
+                    int part = r % 3;
+                    int want = part == 0 ? model.fault : part == 1 ? model.faultPlace : model.faultLane;
+                    same("fault " + part, machine.fault(part), want);
+                    break;
+                case 3:
+                    same("trace 0 " + (r & 1), machine.trace(0, r & 1), model.trace(0, r & 1));
+                    break;
+                case 4:
+                    lane(pick(2) == 0 ? r : 0);
+                    break;
+                default:
+                    same("mask", machine.mask(r & 3), model.now.masks[r & 3]);
+                    same("scalar", machine.scalarOf(r), model.now.scalars[r]);
+                    break;
+            }
         }
-        same("fault 0", machine.fault(0), model.fault);
-        same("fault 1", machine.fault(1), model.faultPlace);
-        same("fault 2", machine.fault(2), model.faultLane);
-        same("trace 0 0", machine.trace(0, 0), model.trace(0, 0));
-        same("trace 0 1", machine.trace(0, 1), model.trace(0, 1));
-        int r = pick(8);
-        rows(r);
-        same("mask", machine.mask(r & 3), model.now.masks[r & 3]);
-        same("scalar", machine.scalarOf(r), model.now.scalars[r]);
+    }
+
+    private void lane(int r) {
+        Model.Row reg = model.now.regs[r];
+        if (reg != null) {
+            int i = pick(reg.bits.length);
+            same("lane " + r + " " + i, machine.lane(r, i), reg.bits[i]);
+        }
+        Model.Row array = model.now.arrays[r];
+        if (array != null && array.bits.length > 0) {
+            int i = pick(array.bits.length);
+            same("peek " + r + " " + i, machine.peek(r, i), array.bits[i]);
+        }
     }
 
     private void rows(int r) {
@@ -388,11 +438,13 @@ public final class RandomRunsTest {
         }
     }
 
+    /** As much as there are calls left for. */
     private void all() {
-        for (int r = 0; r < 8; r++) {
-            rows(r);
+        for (int what = 0; what < 12; what++) {
+            same("count " + what, machine.count(what), model.count(what));
         }
-        for (int i = 0; i < model.program.size(); i++) {
+        int first = pick(model.program.size() + 1);
+        for (int i = first; i < Math.min(first + 3, model.program.size()); i++) {
             Model.Ins ins = model.program.get(i);
             same("code " + i + " 0", machine.code(i, 0), ins.op);
             for (int k = 0; k < 4; k++) {
@@ -400,8 +452,10 @@ public final class RandomRunsTest {
             }
             same("code " + i + " 5", machine.code(i, 5), ins.mask);
         }
-        for (int k = 0; k < 65; k++) {
-            same("trace " + k, machine.trace(k, 0), model.trace(k, 0));
+        int k = pick(65);
+        same("trace " + k, machine.trace(k, 0), model.trace(k, 0));
+        for (int r = 0, from = pick(2) == 0 ? 0 : pick(8); r < 8; r++) {
+            rows(r + from & 7);
         }
     }
 }

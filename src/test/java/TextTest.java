@@ -1,6 +1,7 @@
 /** Promises 2 feed, 3 assemble, 4 code. */
 public final class TextTest {
-    private static LaneMachine machine = new LaneMachine();
+    /** The one that read the latest text. */
+    private static LaneMachine machine;
 
     public static void main(String[] args) {
         feed();
@@ -15,16 +16,16 @@ public final class TextTest {
         Check.finish();
     }
 
-    /** The text's answer: how many instructions, or -1 less the place of its FAULT. */
+    /** What a new machine answers to the text: how many instructions, or -1 less the place of its FAULT. */
     private static void text(String text, int want) {
+        machine = new LaneMachine();
         Check.due("assemble of <" + text + ">", Check.assemble(machine, text), want);
         Check.due("tape behind <" + text + ">", machine.count(11), 0);
     }
 
     private static void wrong(String text, int place) {
-        int had = machine.count(0);
         text(text, -1 - place);
-        Check.due("instructions behind <" + text + ">", machine.count(0), had);
+        Check.due("instructions behind <" + text + ">", machine.count(0), 0);
     }
 
     private static void feed() {
