@@ -14,6 +14,7 @@ public final class StepsBoundsTest {
         partsGo();
         partsBehindPoke();
         partsLongAgo();
+        partsThatHelp();
         againAndAgain();
         endedAgain();
         emptyByCalls();
@@ -297,6 +298,33 @@ public final class StepsBoundsTest {
             m.back();
             Check.due("as it was ahead of STEP " + (40 + k), m.lane(0, 1), ahead[k]);
         }
+    }
+
+    /** What a scan with a FAULT left makes the sums smaller, so that it is done when it is come to once more. */
+    private static void partsThatHelp() {
+        Check.holds("TAKEN BACK: a STEP that had a FAULT the first time: all is as it was ahead of the STEP");
+        LaneMachine m = Bench.floats('f', Bench.reals(-1e38, 3e38, 2.4e38));
+        Check.due("FAULT", Bench.run(m, "mov s1,9;scan v0,v0;end"), 6);
+        Check.fault("the sum of all three", m, 6, 3, 2);
+        long first = Check.f(-1e38);
+        long second = Check.f((float) -1e38 + (float) 3e38);
+        Check.lanes("two are done", m, 0, first, second, Check.f(2.4e38));
+        m.keep(0);
+        Check.due("now it is done", m.run(1), -1);
+        Check.noFault("it was the latest instruction", m);
+        Check.lanes("sums of sums", m, 0, first, Check.f((float) -1e38 + ((float) -1e38 + (float) 3e38)),
+                Check.f((float) -1e38 + ((float) -1e38 + (float) 3e38) + (float) 2.4e38));
+        Check.due("STEPS", m.count(1), 4);
+        Check.due("LANES DONE", m.count(2), 9);
+        Check.due("the end", m.run(9), 0);
+        Check.due("back", m.back(), 4);
+        Check.due("back", m.back(), 3);
+        Check.due("what the FAULT left is there", m.differs(0, -1), 0);
+        Check.due("back", m.back(), 2);
+        Check.lanes("what it left is gone", m, 0, first, Check.f(3e38), Check.f(2.4e38));
+        Check.due("the same FAULT again", m.run(9), 6);
+        Check.fault("the sum of all three", m, 6, 3, 2);
+        Check.due("as it was then", m.differs(0, -1), 0);
     }
 
     private static void againAndAgain() {
